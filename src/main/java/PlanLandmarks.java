@@ -899,11 +899,16 @@ public final class PlanLandmarks {
         int ofAll(int set) {
             int all = 0;
             for (int fact = 0; fact < FACTS; fact++) {
-                if ((set & (1 << fact)) != 0) {
-                    all = summed ? Math.min(CAP, all + costs[fact]) : Math.max(all, costs[fact]);
+                if ((set & (1 << fact)) == 0) {
+                    continue;
+                }
+                if (summed) {
+                    all += costs[fact];
+                } else if (costs[fact] > all) {
+                    all = costs[fact];
                 }
             }
-            return all;
+            return all > CAP ? CAP : all;
         }
 
         private boolean lower(int set, int cost) {

@@ -91,8 +91,18 @@ public final class ActionsTest {
         due(11, "read of goal alone", Check.readText(x, "goal "), 1);
         due(11, "GOAL then", x.status(2), 0);
         due(11, "START then", x.status(1), 1);
+        x.put(0, 6);
+        x.put(1, 7);
+        x.put(2, 8);
+        Check.readText(x, "act +-$1");
+        due(11, "START as put", x.status(1), 6);
+        due(11, "GOAL as put", x.status(2), 7);
+        due(11, "NOW as put", x.status(3), 8);
+        x.put(0, 1);
+        x.put(1, 0);
+        x.put(2, Check.bits(9, 10));
         due(11, "read of an act alone", Check.readText(x, "act 29+29-29$1"), 1);
-        whole(11, x, 2, 0, 1 << 29, 1 << 29, 1 << 29, 1, -1, -1);
+        whole(11, x, 3, 0, 1 << 29, 1 << 29, 1 << 29, 1, -1, -1);
         CHECK.refused(11, x, "");
         x.show(0, 0);
         due(11, "read(8)", x.read(8), -1);
@@ -104,7 +114,7 @@ public final class ActionsTest {
         due(11, "START as ahead", x.status(1), 1);
         due(11, "GOAL as ahead", x.status(2), 0);
         due(11, "NOW as ahead", x.status(3), Check.bits(9, 10));
-        due(11, "ACTIONS as ahead", x.status(0), 3);
+        due(11, "ACTIONS as ahead", x.status(0), 4);
         CHECK.refused(11, x, "-1 x 2 -2 x 1 -3 x 1 -6 x 1");
         due(11, "the letters of a long text", longText().length(), 160);
         due(11, "read of a long text", Check.readText(x, longText()), 26);

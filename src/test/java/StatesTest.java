@@ -82,7 +82,29 @@ public final class StatesTest {
         x.restore();
         due(25, "reached() behind restore", x.reached(), 2);
         due(30, "best(0) behind restore", x.best(0), 3);
+        anewByMacroAndRead();
         due(29, "excluded(0) behind restore", x.excluded(0), ALL & ~1);
+    }
+
+    private static void anewByMacroAndRead() {
+        PlanLandmarks x = new PlanLandmarks();
+        x.action(1, 2, 1, 1);
+        x.action(1, 8, 1, 1);
+        x.action(2, 4, 2, 1);
+        x.put(0, 1);
+        x.put(1, 4);
+        plan(x, 2, 0, 2);
+        due(26, "state(2)", x.state(2), 8);
+        x.macro(0, 2);
+        plan(x, 2, 3);
+        due(26, "state(3) behind macro", x.state(3), 4);
+        Check.readText(x, "act 0+2-0$1");
+        plan(x, 1, 4);
+        Check.readText(x, "goal 3");
+        plan(x, 1, 1);
+        Check.readText(x, "start ");
+        due(25, "reached() behind read of START", x.reached(), 1);
+        due(30, "best(0) behind read of START", x.best(0), -1);
     }
 
     /** Rings of one FACT on each of 4, 3, 5 and 5 places: 300 STATES. */
@@ -344,6 +366,11 @@ public final class StatesTest {
                 due(34, "behind(0, " + n + ", " + what + ")", x.behind(0, n, what), want[n][what]);
             }
         }
+        x.row(1, 0, 100);
+        for (int i = 0; i < 100; i++) {
+            x.set(1, i, i % 3);
+        }
+        due(34, "behind(1, 100, 1)", x.behind(1, 100, 1), 33 * 12 + 3);
         CHECK.refused(34, x, "");
         x.row(2, 0, 160);
         due(34, "behind of WRONG", x.behind(0, 5, 0), -6);
@@ -374,6 +401,8 @@ public final class StatesTest {
         due(35, "mostPair of the least second", x.mostPair(0, 5), 507);
         Check.numbers(x, 0, 0, 0, 0, 24);
         due(35, "mostPair of itself", x.mostPair(0, 3), 0);
+        Check.numbers(x, 2, 0, 0, 0, 1, 5, 1, 5, 24);
+        due(35, "mostPair of least first", x.mostPair(2, 7), 0);
         x.row(1, 0, 100);
         for (int i = 0; i < 100; i++) {
             x.set(1, i, i < 98 ? i % 24 : 23);
@@ -383,6 +412,8 @@ public final class StatesTest {
         due(35, "mostPair of no ACTION", x.mostPair(0, 4), -6);
         x.set(0, 3, -1);
         due(35, "mostPair of -1", x.mostPair(0, 4), -6);
+        Check.numbers(x, 0, -1, 1, 2, 0);
+        due(35, "mostPair of -1 at first", x.mostPair(0, 4), -6);
         due(35, "mostPair(8)", x.mostPair(8, -1), -1);
         due(35, "mostPair of an ACTION", x.mostPair(7, -1), -2);
         due(35, "mostPair of NOTHING", x.mostPair(6, -1), -3);
@@ -392,6 +423,6 @@ public final class StatesTest {
         due(35, "mostPair n beyond", x.mostPair(0, 5), -5);
         x.row(1, 0, 101);
         due(35, "mostPair n above 100", x.mostPair(1, 101), -6);
-        CHECK.refused(35, x, "-1 x 1 -2 x 1 -3 x 1 -4 x 1 -5 x 3 -6 x 3");
+        CHECK.refused(35, x, "-1 x 1 -2 x 1 -3 x 1 -4 x 1 -5 x 3 -6 x 4");
     }
 }

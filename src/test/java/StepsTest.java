@@ -218,18 +218,22 @@ public final class StepsTest {
         x.put(2, 7);
         x.walk(3);
         Check.readText(x, "now x");
-        Check.numbers(x, 0, 1, 2, 3);
+        Check.numbers(x, 4, 1, 2, 3);
         x.show(1, 1);
         x.show(2, 2);
         x.show(3, 3);
+        x.show(0, 3);
+        x.show(7, 2);
         for (int again = 0; again < 2; again++) {
             due(41, "restore()", x.restore(), 2);
             int[] want = {2, 2, 3, 4, 9, 1, 3};
             for (int what = 0; what < want.length; what++) {
                 due(41, "status(" + what + ")", x.status(what), want[what]);
             }
-            due(41, "holds(0)", x.holds(0), 102);
-            due(41, "element(0, 2)", x.element(0, 2), 3);
+            due(41, "holds(4)", x.holds(4), 102);
+            due(41, "element(4, 2)", x.element(4, 2), 3);
+            due(41, "holds(0)", x.holds(0), -1);
+            due(41, "holds(7)", x.holds(7), again == 0 ? -1 : 102);
             due(41, "holds(1)", x.holds(1), 1);
             due(41, "holds(2)", x.holds(2), -1);
             due(41, "holds(3)", x.holds(3), -1);
@@ -238,12 +242,16 @@ public final class StepsTest {
             due(41, "actionOf(1, 6)", x.actionOf(1, 6), 0);
             x.action(16, 16, 0, 6);
             due(41, "the new ACTION", x.actionOf(2, 1), 16);
+            x.action(32, 32, 0, 6);
+            due(41, "KIND where a DEEP was", x.actionOf(3, 0), 0);
+            due(41, "the first where a DEEP was", x.actionOf(3, 5), -1);
+            Check.numbers(x, 7, 1);
             due(41, "holds(2) with a new ACTION", x.holds(2), -1);
             x.put(0, 1);
         }
-        due(40, "image() anew", x.image(), 3);
+        due(40, "image() anew", x.image(), 4);
         x.put(0, 29);
-        due(41, "restore()", x.restore(), 3);
+        due(41, "restore()", x.restore(), 4);
         due(41, "START", x.status(1), 1);
         due(41, "COST", x.actionOf(2, 4), 6);
         CHECK.refused(41, x, "-5 x 2 -6 x 2");
