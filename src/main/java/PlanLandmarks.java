@@ -898,7 +898,7 @@ public final class PlanLandmarks {
 
         int ofAll(int set) {
             int all = 0;
-            for (int fact = 0; fact < FACTS; fact++) {
+            for (int fact = 0; fact < FACTS && set >>> fact != 0; fact++) {
                 if ((set & (1 << fact)) == 0) {
                     continue;
                 }
@@ -913,7 +913,7 @@ public final class PlanLandmarks {
 
         private boolean lower(int set, int cost) {
             boolean changed = false;
-            for (int fact = 0; fact < FACTS; fact++) {
+            for (int fact = 0; fact < FACTS && set >>> fact != 0; fact++) {
                 int bit = 1 << fact;
                 if ((set & bit) != 0 && ((known & bit) == 0 || cost < costs[fact])) {
                     costs[fact] = cost;
@@ -957,7 +957,7 @@ public final class PlanLandmarks {
             // An ACTION's NEEDS have lower FIRST LEVELS than what it is chosen for: one way down is enough.
             for (int k = levels.lastLevel(); k > 0; k--) {
                 int here = wanted & levels.newAt(k);
-                for (int fact = 0; fact < FACTS; fact++) {
+                for (int fact = 0; fact < FACTS && here >>> fact != 0; fact++) {
                     if ((here & (1 << fact)) != 0) {
                         include(makerOf(fact, k), state);
                     }
