@@ -497,7 +497,7 @@ public final class PlanLandmarks {
             if (allowed == 0) {
                 break;
             }
-            step(numberBehind(allowed, draw(Integer.bitCount(allowed))));
+            step(actionBehind(allowed, draw(Integer.bitCount(allowed))));
         }
         return stepCount;
     }
@@ -577,13 +577,13 @@ public final class PlanLandmarks {
         return which >= GUESS_LEFT && which <= GUESS_PLAN;
     }
 
-    /** The number that has n lower ones in a set; NONE: there are no more than n. */
-    private static int numberBehind(int set, int n) {
+    /** The ACTION of a set that has n lower ones in it; NONE: there are no more than n. */
+    private static int actionBehind(int set, int n) {
         int lower = 0;
-        for (int number = 0; number < FACTS; number++) {
-            if ((set & (1 << number)) != 0) {
+        for (int a = 0; a < MOST_ACTIONS; a++) {
+            if ((set & (1 << a)) != 0) {
                 if (lower == n) {
-                    return number;
+                    return a;
                 }
                 lower++;
             }
