@@ -1,8 +1,18 @@
+import java.io.IOException;
+import java.io.UncheckedIOException;
+import java.nio.file.Files;
+import java.nio.file.Path;
+
 /** Counts answers that are not the ones due, and tells them. */
 final class Check {
+    private static final Path DOCUMENT = Path.of("../shared/DOC.md");
+
     private final String name;
     private int asked = 0;
     private int wrong = 0;
+    private int edges = 0;
+    private String document = "";
+    private String sentence = "";
 
     Check(String name) {
         this.name = name;
@@ -14,6 +24,44 @@ final class Check {
             wrong++;
             System.out.println("promise " + promise + ": " + call + " answered " + got + ", due is " + want);
         }
+    }
+
+    /** A test of its own for one sentence of the document: it must stand there, and something must be asked of it. */
+    void edge(String quoted, Runnable test) {
+        sentence = quoted;
+        if (!document().contains(quoted)) {
+            fail("the document doesn't say: " + quoted);
+        }
+        int before = asked;
+        try {
+            test.run();
+        } catch (RuntimeException thrown) {
+            fail("'" + quoted + "': " + thrown);
+        }
+        if (asked == before) {
+            fail("'" + quoted + "': nothing was asked");
+        }
+        edges++;
+    }
+
+    /** Of the sentence that edge() was called with. */
+    void due(String call, long got, long want) {
+        asked++;
+        if (got != want) {
+            wrong++;
+            System.out.println("'" + sentence + "': " + call + " answered " + got + ", due is " + want);
+        }
+    }
+
+    private String document() {
+        if (document.isEmpty()) {
+            try {
+                document = Files.readString(DOCUMENT).replaceAll("\\s+", " ");
+            } catch (IOException missing) {
+                throw new UncheckedIOException(missing);
+            }
+        }
+        return document;
     }
 
     /** Which of the REFUSALS -1 to -7 there were, as a text: "-1 x 2 -6 x 1". */
@@ -45,7 +93,8 @@ final class Check {
     }
 
     void end() {
-        System.out.println(name + ": " + asked + " asked, " + wrong + " wrong");
+        String ofEdges = edges == 0 ? "" : edges + " sentences, ";
+        System.out.println(name + ": " + ofEdges + asked + " asked, " + wrong + " wrong");
         if (wrong != 0 || asked == 0) {
             System.exit(1);
         }
