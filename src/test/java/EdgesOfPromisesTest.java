@@ -767,6 +767,9 @@ public final class EdgesOfPromisesTest {
 
     private static void behindWrong() {
         PlanLandmarks x = turning();
+        for (int what = 0; what < 4; what++) {
+            due("behind(0, 101, " + what + ") of what is right", x.behind(0, 101, what), -6);
+        }
         x.set(0, 2, 1);
         for (int what = 0; what < 4; what++) {
             due("behind(0, 3, " + what + ") of WRONG", x.behind(0, 3, what), -6);

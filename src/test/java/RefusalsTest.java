@@ -31,6 +31,7 @@ public final class RefusalsTest {
         steps();
         restores();
         nothingRefused();
+        numbers();
         CHECK.end();
     }
 
@@ -496,5 +497,164 @@ public final class RefusalsTest {
         CHECK.due(31, "bestAt(0), there is none", of.x.bestAt(0), -1);
         CHECK.due(23, "landmarks(), none", of.x.landmarks(), 0);
         of.end();
+    }
+
+    private static void due(String call, long got, long want) {
+        CHECK.due(call, got, want);
+    }
+
+    private static void numbers() {
+        CHECK.edge("the call answers the number; nothing changes but how many there were; the first that fits, in this order",
+            RefusalsTest::firstThatFits);
+        CHECK.edge("-1 NOBODY: no such SHELF, ACTION, FACT, KIND, GUESS", RefusalsTest::nobody);
+        CHECK.edge("-2 OTHER: a SHELF that holds an ACTION where a ROW is wanted, or the other way about, "
+            + "ROWS of two SORTS, an ACTION that isn't of the KIND wanted, or one under it", RefusalsTest::other);
+        CHECK.edge("-3 NOTHING: a SHELF that holds NOTHING", RefusalsTest::nothing);
+        CHECK.edge("-4 BELOW: a size below 0", RefusalsTest::below);
+        CHECK.edge("-5 BEYOND: an element that isn't there; nothing such to be told of", RefusalsTest::beyond);
+        CHECK.edge("-6 WRONG: a number that may not be, a FAULT, what can't be as things stand", RefusalsTest::wrong);
+        CHECK.edge("-7 ROOM: more than may be", RefusalsTest::room);
+    }
+
+    /** One thing after another is set right: copy() then answers -1 to -5, and at last 1. */
+    private static void firstThatFits() {
+        PlanLandmarks x = world();
+        due("copy of all wrong", x.copy(8, 4, -1, -1, -1), -1);
+        due("copy, p NOTHING, q an ACTION", x.copy(6, 4, -1, -1, -1), -2);
+        due("copy, q NOTHING", x.copy(0, 6, -1, -1, -1), -3);
+        due("copy, n below 0", x.copy(0, 7, -1, -1, -1), -4);
+        due("copy, i and j below 0", x.copy(0, 7, -1, -1, 1), -5);
+        due("copy, j below 0", x.copy(0, 7, 1, -1, 1), -5);
+        due("copy", x.copy(0, 7, 1, 1, 1), 1);
+        int[] counts = {1, 1, 1, 1, 2, 1, 0};
+        for (int r = 0; r < 7; r++) {
+            due("status(" + (11 + r) + ")", x.status(11 + r), counts[r]);
+        }
+    }
+
+    private static void nobody() {
+        PlanLandmarks x = world();
+        due("row(8, 0, 1), no such SHELF", x.row(8, 0, 1), -1);
+        due("judge(-1, 0), no such SHELF", x.judge(-1, 0), -11);
+        due("then(1, 5), no such ACTION", x.then(1, 5), -1);
+        due("macro(0, -1), no such ACTION", x.macro(0, -1), -1);
+        due("show(0, 5), no such ACTION", x.show(0, 5), -1);
+        due("firstOf(1, 5), no such ACTION", x.firstOf(1, 5), -11);
+        due("isAhead(0, 30), no such FACT", x.isAhead(0, 30), -1);
+        due("excluded(-1), no such FACT", x.excluded(-1), -1);
+        due("first(1, 30), no such FACT", x.first(1, 30), -11);
+        due("says(4, 3), no such KIND", x.says(4, 3), -1);
+        due("greedy(4, 1), no such GUESS", x.greedy(4, 1), -1);
+        due("guess(1, 4), no such GUESS", x.guess(1, 4), -11);
+        due("actionOf(5, 0) alone is BEYOND", x.actionOf(5, 0), -5);
+        due("status(11)", x.status(11), 12);
+    }
+
+    private static void other() {
+        PlanLandmarks x = world();
+        due("read(4) of an ACTION", x.read(4), -2);
+        due("set(4, 0, 1) of an ACTION", x.set(4, 0, 1), -2);
+        due("spell(4) of an ACTION", x.spell(4), -2);
+        due("judge(4, 0) of an ACTION", x.judge(4, 0), -12);
+        due("says(0, 0) of a ROW", x.says(0, 0), -2);
+        due("copy(0, 2, ..) of two SORTS", x.copy(0, 2, 0, 0, 1), -2);
+        due("says(4, 1): an ACTION is no MACRO", x.says(4, 1), -2);
+        due("says(1, 2): a MACRO is no DEEP", x.says(1, 2), -2);
+        due("status(12)", x.status(12), 8);
+        due("says(1, 0): a MACRO is under ACTION", x.says(1, 0), 90);
+        due("says(5, 1): a DEEP is under MACRO", x.says(5, 1), 203);
+        due("says(5, 0): a DEEP is under ACTION", x.says(5, 0), 95);
+        due("status(12) still", x.status(12), 8);
+    }
+
+    private static void nothing() {
+        PlanLandmarks x = world();
+        due("set(6, 0, 1)", x.set(6, 0, 1), -3);
+        due("copy(6, 0, 0, 0, 0)", x.copy(6, 0, 0, 0, 0), -3);
+        due("copy(0, 6, 0, 0, 0)", x.copy(0, 6, 0, 0, 0), -3);
+        due("says(6, 0)", x.says(6, 0), -3);
+        due("read(6)", x.read(6), -3);
+        due("spell(6)", x.spell(6), -3);
+        due("judge(6, 0)", x.judge(6, 0), -13);
+        due("behind(6, 0, 0)", x.behind(6, 0, 0), -3);
+        due("mostPair(6, 2)", x.mostPair(6, 2), -3);
+        due("status(13)", x.status(13), 9);
+        due("element(6, 0)", x.element(6, 0), 0);
+        due("holds(6)", x.holds(6), -1);
+        due("row(6, 0, 1)", x.row(6, 0, 1), 1);
+        due("set(6, 0, 1) then", x.set(6, 0, 1), 1);
+        due("status(13) still", x.status(13), 9);
+    }
+
+    private static void below() {
+        PlanLandmarks x = world();
+        due("row(0, 0, -1)", x.row(0, 0, -1), -4);
+        due("copy(0, 0, 0, 0, -1)", x.copy(0, 0, 0, 0, -1), -4);
+        due("judge(0, -1)", x.judge(0, -1), -14);
+        due("behind(0, -1, 0)", x.behind(0, -1, 0), -4);
+        due("mostPair(0, -1)", x.mostPair(0, -1), -4);
+        due("status(14)", x.status(14), 5);
+        // 0 is no size below 0; and what is no size isn't BELOW.
+        due("copy(0, 0, 0, 0, 0)", x.copy(0, 0, 0, 0, 0), 1);
+        due("judge(0, 0)", x.judge(0, 0), -1);
+        due("behind(0, 0, 0)", x.behind(0, 0, 0), 1);
+        due("row(6, 0, 0)", x.row(6, 0, 0), 1);
+        due("walk(-1)", x.walk(-1), -6);
+        due("greedy(0, -1)", x.greedy(0, -1), -6);
+        due("level(0, -1)", x.level(0, -1), -6);
+        due("set(0, -1, 1)", x.set(0, -1, 1), -5);
+        due("status(14) still", x.status(14), 5);
+    }
+
+    private static void beyond() {
+        PlanLandmarks x = world();
+        due("set(0, 3, 1)", x.set(0, 3, 1), -5);
+        due("copy(0, 0, 0, 1, 3)", x.copy(0, 0, 0, 1, 3), -5);
+        due("judge(0, 4)", x.judge(0, 4), -15);
+        due("behind(0, 4, 0)", x.behind(0, 4, 0), -5);
+        due("mostPair(0, 4)", x.mostPair(0, 4), -5);
+        due("put(3, 0)", x.put(3, 0), -5);
+        due("actionOf(5, 0)", x.actionOf(5, 0), -5);
+        due("actionOf(0, 7)", x.actionOf(0, 7), -5);
+        due("state(3)", x.state(3), -5);
+        due("far(3)", x.far(3), -5);
+        due("best(2)", x.best(2), -15);
+        due("status(15)", x.status(15), 11);
+        due("element(0, 3)", x.element(0, 3), 0);
+        due("trace(2)", x.trace(2), -1);
+        due("bestAt(1)", x.bestAt(1), -1);
+        due("status(15) still", x.status(15), 11);
+    }
+
+    private static void wrong() {
+        PlanLandmarks x = world();
+        int before = x.status(16);
+        due("action(0, 0, 0, 100)", x.action(0, 0, 0, 100), -6);
+        due("put(0, -1)", x.put(0, -1), -6);
+        due("may(-1)", x.may(-1), -6);
+        due("guess(-1, 0)", x.guess(-1, 0), -16);
+        due("row(0, 4, 1)", x.row(0, 4, 1), -6);
+        due("walk(41)", x.walk(41), -6);
+        due("read(7), a FAULT", x.read(7), -6);
+        due("macro(0, 0), which can't be", x.macro(0, 0), -6);
+        due("then(0, 0), which MAY not be", x.then(0, 0), -6);
+        due("behind(2, 3, 0), which is WRONG", x.behind(2, 3, 0), -6);
+        due("mostPair(7, 2), no ACTIONS", x.mostPair(7, 2), -6);
+        due("status(16)", x.status(16) - before, 11);
+        x = new PlanLandmarks();
+        due("restore() without an image", x.restore(), -6);
+        due("status(16)", x.status(16), 1);
+    }
+
+    private static void room() {
+        PlanLandmarks x = full();
+        due("action(0, 0, 0, 1)", x.action(0, 0, 0, 1), -7);
+        due("macro(0, 1)", x.macro(0, 1), -7);
+        due("row(0, 0, 161)", x.row(0, 0, 161), -7);
+        due("spell(3)", x.spell(3), -7);
+        due("status(17)", x.status(17), 4);
+        // Of a TEXT it is a FAULT.
+        due("read of an act", Check.readText(x, "act +-$1"), -6);
+        due("status(17) still", x.status(17), 4);
     }
 }
