@@ -417,7 +417,10 @@ public final class Model {
     }
 
     private int firstWith(Set<Integer> state, Set<Integer> wanted) {
-        List<Set<Integer>> all = levels(state, NONE);
+        return firstIn(levels(state, NONE), wanted);
+    }
+
+    private static int firstIn(List<Set<Integer>> all, Set<Integer> wanted) {
         for (int k = 0; k <= 30; k++) {
             if (all.get(k).containsAll(wanted)) {
                 return k;
@@ -481,6 +484,7 @@ public final class Model {
         if (!sums.keySet().containsAll(goal)) {
             return null;
         }
+        List<Set<Integer>> levels = levels(state, NONE);
         Set<Integer> wanted = less(goal, state);
         Set<Integer> looked = new TreeSet<>();
         Set<Integer> plan = new TreeSet<>();
@@ -488,7 +492,7 @@ public final class Model {
             int next = NONE;
             int greatest = NONE;
             for (int fact : less(wanted, looked)) {
-                int first = firstWith(state, Set.of(fact));
+                int first = firstIn(levels, Set.of(fact));
                 if (first > greatest) {
                     next = fact;
                     greatest = first;
@@ -498,7 +502,7 @@ public final class Model {
             int least = Integer.MAX_VALUE;
             for (int a = 0; a < acts.size(); a++) {
                 Act x = acts.get(a);
-                int first = firstWith(state, x.needs);
+                int first = firstIn(levels, x.needs);
                 if (x.makes.contains(next) && first != NONE && first < greatest) {
                     int cost = together(sums, x.needs, true, x.cost);
                     if (cost < least) {

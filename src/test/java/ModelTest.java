@@ -11,6 +11,8 @@ import java.util.Random;
 /** Runs of calls by draws (always the same ones): the class must answer as the Model does. */
 public final class ModelTest {
     private static final int CALLS = 500;
+    private static final int MOST_GUESSED = 1000000;
+    private static final String CAPPED = "a guess of 1,000,000";
     private static final List<String> RARE = List.of("restore", "image", "put", "action", "macro");
 
     /**
@@ -31,7 +33,7 @@ public final class ModelTest {
     }
 
     private final Random random;
-    private final int breadth;
+    private int breadth;
     private final PlanLandmarks real = new PlanLandmarks();
     private final Model model = new Model();
     private final List<String> told = new ArrayList<>();
@@ -62,6 +64,10 @@ public final class ModelTest {
                 System.out.println(method.getName() + " was called too seldom, or always answered alike");
             }
         }
+        if (kinds.getOrDefault(CAPPED, 0) == 0) {
+            wrong++;
+            System.out.println(CAPPED + " was never due");
+        }
         System.out.println("ModelTest: " + runs + " runs, " + wrong + " wrong");
         if (wrong != 0) {
             System.exit(1);
@@ -81,7 +87,9 @@ public final class ModelTest {
 
     private boolean isAlike(List<Method> methods, Map<String, Integer> kinds) throws Exception {
         Map<String, Object> firstAnswers = new HashMap<>();
-        if (random.nextInt(3) != 0) {
+        if (breadth == 30 && random.nextInt(10) == 0) {
+            makeDoublingWorld();
+        } else if (random.nextInt(3) != 0) {
             makeWorld();
         }
         for (int n = 0; n < CALLS; n++) {
@@ -107,18 +115,40 @@ public final class ModelTest {
             int needs = few(2);
             int makes = few(2) | 1 << random.nextInt(breadth);
             int undoes = random.nextBoolean() ? needs : few(1);
-            int cost = 1 + random.nextInt(costs);
-            real.action(needs, makes, undoes, cost);
-            model.action(needs, makes, undoes, cost);
-            told.add("action[" + needs + ", " + makes + ", " + undoes + ", " + cost + "]");
+            tellAction(needs, makes, undoes, 1 + random.nextInt(costs));
         }
         for (int what = 0; what < 3; what++) {
-            int set = few(what == 1 ? 3 : 2);
-            real.put(what, set);
-            model.put(what, set);
-            told.add("put[" + what + ", " + set + "]");
+            tellPut(what, few(what == 1 ? 3 : 2));
         }
-        actions = most;
+    }
+
+    /** Most ACTIONS need almost all that those ahead make: SUMS double, up to 1,000,000 and above. */
+    private void makeDoublingWorld() {
+        int fact = 0;
+        for (int a = 0; a < 22; a++) {
+            int ahead = (1 << fact) - 1;
+            int needs = random.nextInt(4) == 0 ? few(3) & ahead : ahead & ~few(1);
+            tellAction(needs, 1 << fact | few(1) & ahead, few(1), 99 - random.nextInt(3));
+            // Now and then there is a second way to the same FACT.
+            fact += random.nextInt(8) == 0 ? 0 : 1;
+        }
+        tellPut(0, few(1));
+        tellPut(1, 3 << Math.max(0, fact - 2 - random.nextInt(3)) | few(1));
+        tellPut(2, few(1));
+        breadth = Math.min(30, fact + 1);
+    }
+
+    private void tellAction(int needs, int makes, int undoes, int cost) {
+        real.action(needs, makes, undoes, cost);
+        model.action(needs, makes, undoes, cost);
+        told.add("action[" + needs + ", " + makes + ", " + undoes + ", " + cost + "]");
+        actions = model.status(0);
+    }
+
+    private void tellPut(int what, int set) {
+        real.put(what, set);
+        model.put(what, set);
+        told.add("put[" + what + ", " + set + "]");
     }
 
     private int few(int most) {
@@ -152,6 +182,9 @@ public final class ModelTest {
         Object want = Model.class.getMethod(name, method.getParameterTypes()).invoke(model, values);
         Object before = firstAnswers.putIfAbsent(name, want);
         kinds.merge(name, before == null ? 1 : before.equals(want) ? 0 : 1, Integer::sum);
+        if (name.equals("guess") && want.equals(MOST_GUESSED)) {
+            kinds.merge(CAPPED, 1, Integer::sum);
+        }
         told.add(name + Arrays.toString(values) + " answered " + got + ", due is " + want);
         return got.equals(want);
     }
@@ -168,7 +201,7 @@ public final class ModelTest {
             case 'a': return odd ? wild : random.nextInt(actions + 2) - 1;
             case 'k': return odd ? wild : random.nextInt(3);
             case 'f': return odd ? wild : random.nextInt(Math.min(30, breadth + 1));
-            case 'S': return odd ? wild : random.nextInt() & random.nextInt() & ((1 << breadth) - 1);
+            case 'S': return odd ? wild : random.nextInt(4) == 0 ? few(2) : anySet();
             case 'c': return odd ? wild : random.nextInt(4) == 0 ? 1 + random.nextInt(99) : 1 + random.nextInt(5);
             case 'w': return odd ? wild : random.nextInt(name.equals("actionOf") || name.equals("status") ? 7 : 4);
             case 'g': return odd ? wild : random.nextInt(4);
@@ -176,6 +209,10 @@ public final class ModelTest {
             case 'r': return odd ? wild : random.nextInt(42);
             default: throw new IllegalStateException("parameter " + parameter);
         }
+    }
+
+    private int anySet() {
+        return random.nextInt() & random.nextInt() & ((1 << breadth) - 1);
     }
 
     private int rowSize() {
